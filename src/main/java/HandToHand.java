@@ -810,7 +810,8 @@ public final class HandToHand {
             for (int i = 0; i < FAR_ABOVE && some; i++) {
                 some = false;
                 for (int h = told.hands - 1; h >= 0; h--) {
-                    if (act(h)) {
+                    // Who has ticks left works on or walks on, whatever the others do.
+                    if (left[h] == 0 && act(h)) {
                         some = true;
                     }
                 }
@@ -819,7 +820,7 @@ public final class HandToHand {
 
         private boolean act(int h) {
             switch (doing[h]) {
-                case WORKS: return left[h] == 0 && finishUnit(h);
+                case WORKS: return finishUnit(h);
                 case READY: return h == 0 ? takeNewCoat() : takeOver(h);
                 case STANDS: return startUnit(h);
                 default: return false;
