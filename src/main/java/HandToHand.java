@@ -788,8 +788,8 @@ public final class HandToHand {
             }
         }
 
+        /** Both benches are by the same; where hands stood is asked of runs alone, and no run is copied. */
         void copyFrom(Bench other) {
-            told = other.told;
             tick = other.tick;
             done = other.done;
             handings = other.handings;
@@ -801,7 +801,6 @@ public final class HandToHand {
             System.arraycopy(other.sort, 0, sort, 0, MOST_HANDS);
             System.arraycopy(other.waited, 0, waited, 0, MOST_HANDS);
             System.arraycopy(other.learned, 0, learned, 0, MOST_HANDS * MOST_PIECES);
-            System.arraycopy(other.stood, 0, stood, 0, MOST_PIECES);
         }
 
         /** Does all that is to be done at this tick. */
@@ -1511,7 +1510,12 @@ public final class HandToHand {
             }
             value = NO_NAME;
             for (int name = 0; name < ALL_NAMES && value == NO_NAME; name++) {
-                if (isSpelled(wordOf(name))) {
+                String word = wordOf(name);
+                int same = 0;
+                while (same < word.length() && start + same < next && tape[start + same] == word.charAt(same)) {
+                    same++;
+                }
+                if (same == word.length() && start + same == next) {
                     value = name;
                 }
             }
@@ -1534,19 +1538,6 @@ public final class HandToHand {
 
         private boolean isFigure(int at) {
             return tape[at] >= '0' && tape[at] <= '9';
-        }
-
-        /** Whether the letters from the token's first to the next byte are a word's. */
-        private boolean isSpelled(String word) {
-            if (word.length() != next - start) {
-                return false;
-            }
-            for (int i = 0; i < word.length(); i++) {
-                if (tape[start + i] != word.charAt(i)) {
-                    return false;
-                }
-            }
-            return true;
         }
 
         private static String wordOf(int name) {

@@ -621,6 +621,10 @@ public final class PromisesTest {
         Due.same("beyond", x.judge(120, 362, 1, 1, 0), BAD);
         Due.same("below", x.judge(-1, 0, 0, 0, 0), BAD);
         Due.same("alone", Tape.told(LEARNER).judge(0, 0, 0, 0, 0), BAD);
+        Due.same("the first of all", Tape.told(FIXED_PARTS).judge(0, 2, 1, 1, 0), 0);
+        HandToHand after = Tape.told(FIXED_PARTS);
+        after.run(1, 0);
+        Due.same("of a run of 120, whatever was asked ahead", after.judge(119, 359, 1, 1, 0), 0);
     }
 
     private static int[] ringOf(HandToHand x) {
@@ -929,6 +933,13 @@ public final class PromisesTest {
 
         refusedReads(x);
         badPaces();
+        HandToHand five = Tape.told("piece 1;hand 1;hand 1;hand 1;hand 1;hand 1;");
+        five.sheet(0, 0, 5);
+        for (int i = 0; i < 5; i++) {
+            five.lay(0, i, 9 - i);
+        }
+        Due.same("five hands", five.read(0, 0, 0, 0, 5), 5);
+        Due.same("the first and the last of five", five.pace(0, 0) * 10 + five.pace(4, 0), 95);
         HandToHand y = Tape.told("piece 1;hand 1;");
         y.sheet(0, 0, 1);
         y.lay(0, 0, 4);
