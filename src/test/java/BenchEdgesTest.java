@@ -8,6 +8,7 @@ public final class BenchEdgesTest {
 
     public static void main(String[] args) {
         atFirst();
+        whatAHandDoes();
         nextUnit();
         coatIsDone();
         newCoats();
@@ -17,6 +18,7 @@ public final class BenchEdgesTest {
         rules();
         beginningUnits();
         oneAfterTheOther();
+        ticksThatAreLeft();
         waiting();
         begin();
         go();
@@ -57,6 +59,22 @@ public final class BenchEdgesTest {
         five.go(3);
         five.night();
         looks("behind the night", five, "stands 0.0, stands 0.0, stands 0.0, stands 0.0, works 0.0 for 1");
+    }
+
+    private static void whatAHandDoes() {
+        Due.about("A HAND has a coat at a PIECE and UNIT (UNITS 0 to those done there), and WORKS (so many TICKS left of the UNIT), or"
+            + " STANDS; or she has none, and WALKS (so many TICKS left), or is READY.");
+        HandToHand x = Tape.told("piece 6;hand 1;hand 9;");
+        for (int unit = 0; unit < 6; unit++) {
+            looks("unit " + unit, x, "stands 0." + unit + ", works 0." + unit + " for " + (unit == 0 ? 9 : 8));
+            goes(x, unit == 0 ? 9 : 8, unit < 5 ? "works 0." + unit + " for 1, works 0." + (unit + 1) + " for 9" : "works 0.5 for 1, ready");
+            x.go(1);
+        }
+        looks("the coat is done, another one taken over", x, "stands 0.0, works 0.0 for 9");
+        HandToHand way = Tape.told("piece 1;hand 9;hand 1;walk 3;");
+        goes(way, 1, "works 0.0 for 9, walks 3");
+        goes(way, 2, "works 0.0 for 7, walks 1");
+        goes(way, 1, "works 0.0 for 6, ready");
     }
 
     private static void nextUnit() {
@@ -245,6 +263,32 @@ public final class BenchEdgesTest {
         // At 2 hand 1 is done and hand 0 stands at piece 1, all at once.
         goes(y, 1, "works 0.0 for 1, works 1.0 for 1");
         Due.same("done at 2", y.now(1) * 10 + y.now(2), 12);
+    }
+
+    private static void ticksThatAreLeft() {
+        Due.about("Then all TICKS that are left go by as many as the least of them, above 0; if there are none, it is STUCK (whether it is"
+            + " so is told as it is now).");
+        // 9 of the one and 1 of the other: nothing is left out between.
+        HandToHand x = Tape.told("piece 1;piece 1;hand 9 1;hand 1 5;zone 1;walk 2;");
+        goes(x, 1, "works 0.0 for 9, works 1.0 for 5");
+        goes(x, 5, "works 0.0 for 4, walks 4");
+        goes(x, 4, "works 0.0 for 9, works 1.0 for 5");
+        Due.about("STUCK: TICKS go all the same.");
+        // The last hand always may work, and who can not be taken over from works: by no rule is it ever stuck.
+        String[] texts = {"piece 1;hand 1;hand 1;fixed 1;", "piece 2;piece 2;whole 0;whole 1;hand 1 1;hand 9 9;hand 1 1;zone 1 1;",
+            "piece 2;piece 2;whole 0;whole 1;hand 1 1;hand 9 9;hand 1 1;fixed 1 1;walk 5;",
+            "piece 1;piece 1;sort 1 0 1;row 1 0;hand 1 1;hand 3 3;hand 2 2;fixed 2 2;",
+            "piece 1;piece 1;piece 2;sort 1 0 0 1;row 0 1;hand 1 1 1;hand 3 3 3;zone 1;walk 3;"};
+        for (String text : texts) {
+            HandToHand y = Tape.told(text);
+            for (int t = 0; t < 60; t++) {
+                Due.same("stuck at " + t + ": " + text, y.now(3), 0);
+                y.go(1);
+            }
+            Due.same("all ticks went", y.now(0), 60);
+            Due.same("no run is stuck: " + text, y.run(120, 3) + y.run(1, 3), 0);
+            Due.holds("all coats are done: " + text, y.run(120, 1) >= 120);
+        }
     }
 
     private static void waiting() {

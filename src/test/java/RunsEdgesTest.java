@@ -265,6 +265,10 @@ public final class RunsEdgesTest {
             + " (1; 1, 0: also for no time), the first such PIECE (2; NONE), UNIT (3; NONE). BAD; NONE: no RING.");
         HandToHand never = Tape.told("piece 1;hand 1;hand 1;fixed 1;");
         Due.same("no time", Look.row(3, i -> never.where(1, i)), "0 0 -4 -4");
+        HandToHand behind = Tape.told(FIXED_PARTS);
+        behind.where(1, 0);
+        Tape.tell(behind, "piece 1;hand 1;hand 1;fixed 1;");
+        Due.same("no time behind another text", Look.row(3, i -> behind.where(1, i)), "0 0 -4 -4");
         HandToHand once = Tape.told(FIXED_PARTS);
         Due.same("once", Look.row(3, i -> once.where(1, i)), "1 1 1 0");
         // Three coats by the ring, each handed over at piece 1.
@@ -478,6 +482,9 @@ public final class RunsEdgesTest {
         Due.same("2 and 3", middle.parts(10) * 100 + middle.parts(11) * 10 + middle.parts(1), 232);
         HandToHand late = Tape.told("piece 1;".repeat(7) + "hand 1 1 2 1 1 1 1;".repeat(4));
         Due.same("2, 3 and 5", late.parts(10) * 1000 + late.parts(11) * 100 + late.parts(12) * 10 + late.parts(1), 2352);
+        // Ends 2 and 2 would leave the slow hand out, but are none.
+        HandToHand above = Tape.told("piece 1;piece 1;piece 1;piece 1;hand 1 1 1 1;hand 9 9 9 9;hand 1 1 1 1;");
+        Due.same("each above the one ahead", above.parts(10) * 100 + above.parts(11) * 10 + above.parts(1), 129);
         // Whatever the rule is that is told.
         HandToHand zone = Tape.told("piece 1;piece 1;piece 1;hand 8 9 9;hand 1 1 1;zone 3;");
         Due.same("by fixed", zone.parts(10) * 10 + zone.parts(1), 18);

@@ -1,6 +1,6 @@
 /** The tape, the text and what it tells: each sentence of the document that names an edge, one by one. */
 public final class TextEdgesTest {
-    private static final int BAD = HandToHand.BAD, STATE = HandToHand.STATE, FULL = HandToHand.FULL;
+    private static final int BAD = HandToHand.BAD, STATE = HandToHand.STATE, FULL = HandToHand.FULL, NONE = HandToHand.NONE;
     private static final int LOW = Integer.MIN_VALUE, HIGH = Integer.MAX_VALUE;
     private static final int TAPE = 400;
     private static final String BEFORE = "piece 4;hand 7;walk 3;";
@@ -9,6 +9,8 @@ public final class TextEdgesTest {
     }
 
     public static void main(String[] args) {
+        answers();
+        newObject();
         pieces();
         units();
         sorts();
@@ -63,6 +65,43 @@ public final class TextEdgesTest {
 
     private static void refusedAtEnd(String text, int fault) {
         refused(text, fault, text.length());
+    }
+
+    // ---- answers
+
+    private static void answers() {
+        Due.about("Answers: BAD -1 (a number is not as told, there is no such PIECE, HAND, SORT, IMAGE, SHEET), STATE -2 (as told),"
+            + " FULL -3, NONE -4 (there is none)");
+        Due.same("BAD", BAD, -1);
+        Due.same("STATE", STATE, -2);
+        Due.same("FULL", FULL, -3);
+        Due.same("NONE", NONE, -4);
+        HandToHand x = taken("piece 1;hand 1;hand 1;", 3);
+        Due.same("no such PIECE", x.pace(0, 1), BAD);
+        Due.same("no such HAND", x.pace(2, 0), BAD);
+        Due.same("no such SORT", x.units(3, 0), BAD);
+        Due.same("no such IMAGE", x.back(2), BAD);
+        Due.same("no such SHEET", x.lay(4, 0, 0), BAD);
+        Due.same("there is none", x.count(2), NONE);
+
+        Due.about("What is numbered has its numbers from 0 on, as it comes, where nothing else is told.");
+        HandToHand y = taken("piece 4;piece 5;hand 1 2;hand 3 4;row 2 1;", 5);
+        Due.same("PIECES", y.units(0, 0) * 10 + y.units(0, 1), 45);
+        Due.same("HANDS", y.pace(0, 0) * 10 + y.pace(1, 1), 14);
+        Due.same("places of the row", y.rule(10) * 10 + y.rule(11), 21);
+        Due.same("HANDINGS OVER", y.over(1, 0, 0), 0);
+        Due.same("below 0", y.units(0, -1) + y.pace(-1, 0) + y.rule(9) + y.over(1, -1, 0), 4 * BAD);
+        Due.same("beyond", y.units(0, 2) + y.pace(2, 0) + y.rule(12) + y.units(3, 0), 4 * BAD);
+    }
+
+    private static void newObject() {
+        Due.about("As told at first; SHEETS have nothing.");
+        HandToHand x = new HandToHand();
+        HandToHand y = taken("piece 2;piece 2;piece 2;hand 3 3 3;hand 2 2 2;hand 1 1 1;row 0;", 7);
+        Due.same("as if it had been told", Look.all(x), Look.all(y));
+        Due.same("as if it had been found", Look.found(x), Look.found(y));
+        Due.same("sheets", Look.row(3, k -> x.lay(k, 0, 1)), "-11 -11 -11 -11");
+        Due.same("images", x.back(0) * 10 + x.back(1), STATE * 11);
     }
 
     // ---- what may be told
@@ -268,6 +307,12 @@ public final class TextEdgesTest {
     // ---- lines
 
     private static void lines() {
+        Due.about("text: { line }");
+        taken("piece 1;hand 1;", 2);
+        refusedAtEnd("", 6);
+        Due.same("25 lines", Tape.tell(new HandToHand(), times(8, "piece 1;") + "whole 0;whole 1;whole 2;whole 3;whole 4;whole 5;whole 6;"
+            + "whole 7;sort 1 1 1 1 1 1 1 1 1;sort 2 1 1 1 1 1 1 1 1;row 0;walk 0;learn 0;" + times(3, "hand 1 1 1 1 1 1 1 1;") + "back;"), 25);
+
         Due.about("line: piece N ; | whole N ; | sort N { N } ; | row N { N } ; | hand { N } ; | walk N ; | learn N ; | back ;"
             + " | zone { N } ; | fixed { N } ;");
         HandToHand all = taken("piece 3;whole 0;sort 2 4;sort 1 5;row 1 2;hand 6;hand 7;walk 2;learn 8;fixed 1;", 10);
@@ -302,6 +347,12 @@ public final class TextEdgesTest {
         refused("row 3;", 3, 4);
         // A sort that no line tells may be in the row, also ahead of the pieces.
         taken("row 2 1;piece 1;hand 1;", 3);
+
+        Due.about("hand: PACES of all PIECES.");
+        HandToHand paces = taken("piece 1;piece 0;piece 1;hand 1 9 2;", 4);
+        Due.same("of those without units, too", Look.row(3, p -> paces.pace(0, p)), "1 9 2 -1");
+        refused("piece 1;piece 0;piece 1;hand 1 2;", 2, 32);
+        refused("piece 1;piece 0;piece 1;hand 1 9 2 1;", 2, 35);
 
         Due.about("zone, fixed: ENDS (1 to n) of all HANDS but the last, none below the one ahead.");
         String three = "piece 1;piece 1;hand 1 1;hand 1 1;hand 1 1;";
@@ -691,6 +742,16 @@ public final class TextEdgesTest {
     }
 
     private static void rule() {
+        Due.about("What holds: 0 PIECES, 1 HANDS, 2 WALK, 3 LEARN, 4 RULE (0 back, 1 zone, 2 fixed), 5 WHOLE ones (bits), 6 how many SORTS"
+            + " THE ROW has");
+        HandToHand all = taken(times(8, "piece 1;") + times(5, "hand 1 1 1 1 1 1 1 1;") + "walk 5;learn 99;whole 7;whole 1;row 2 1;", 18);
+        Due.same("all", Look.row(7, all::rule), "8 5 5 99 0 130 2 -1");
+        Due.same("whole ones, all", taken("piece 1;piece 1;whole 1;whole 0;hand 1 1;", 5).rule(5), 3);
+        Due.same("zone", taken("piece 1;hand 1;zone;", 3).rule(4), 1);
+        Due.same("fixed", taken("piece 1;hand 1;fixed;", 3).rule(4), 2);
+        Due.about("RULE: back (at first).");
+        Due.same("back", taken("piece 1;hand 1;", 2).rule(4), 0);
+
         Due.about("10 and i: SORT i of THE ROW; 20 and h: END of HAND h (the last: n; back: n). BAD.");
         HandToHand x = taken(times(8, "piece 1;") + times(5, "hand 1 1 1 1 1 1 1 1;") + "zone 1 1 7 8;row 0 1 2 2 1 0;", 15);
         Due.same("all", Look.row(25, x::rule), "8 5 0 0 1 0 6 -1 -1 -1 0 1 2 2 1 0 -1 -1 -1 -1 1 1 7 8 8 -1");
