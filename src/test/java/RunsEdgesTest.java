@@ -27,6 +27,7 @@ public final class RunsEdgesTest {
         kept();
         judge();
         settling();
+        sortsInARing();
         learntInARing();
         latestRings();
         settles();
@@ -213,6 +214,19 @@ public final class RunsEdgesTest {
         ring("piece 1;hand 1;hand 1;walk 2;", "1 3 3");
         // The place is the same, but not the sort that she has: as at 1 only at 1 + 3.
         ring("piece 1;sort 1 2;row 0 0 1;hand 1;", "1 3 4");
+    }
+
+    /** Coats of a sort with fewer pieces are done ahead of older ones, so that the place in the row does not tell sorts. */
+    private static void sortsInARing() {
+        Due.about("what all HANDS have and do");
+        // At 3 and at 7 all is the same but that hand 2 works at piece 1 of a coat of sort 1, then of sort 0; at 8 as at 4.
+        ring("piece 0;piece 1;sort 1 3 1;sort 2 1 0;row 1 2 0;hand 3 1;hand 1 1;hand 1 1;", "3 3 4");
+        // Sorts that are alike in all are still not the same.
+        ring("piece 0;piece 1;sort 1 1 0;row 2 2 1 0;hand 1 1;hand 2 1;hand 1 1;hand 2 3;", "4 4 5");
+        // A sort more and a unit less, or a tick less, are not the same either.
+        ring("piece 5;sort 2 2;row 0 0 2 0;hand 1;hand 1;", "3 8 17");
+        ring("piece 4;sort 1 1;sort 2 2;row 2 1 0;hand 2;hand 2;hand 3;zone 1 1;walk 2;", "2 6 14");
+        ring("piece 1;piece 0;sort 1 0 1;sort 2 0 1;row 0 1 2 1 2;hand 2 1;hand 2 2;hand 1 2;hand 1 2;", "2 10 11");
     }
 
     private static void learntInARing() {
