@@ -30,6 +30,7 @@ public final class RunsEdgesTest {
         sortsInARing();
         learntInARing();
         latestRings();
+        ringsBehindLargerBenches();
         settles();
         where();
         makes();
@@ -223,6 +224,8 @@ public final class RunsEdgesTest {
         ring("piece 0;piece 1;sort 1 3 1;sort 2 1 0;row 1 2 0;hand 3 1;hand 1 1;hand 1 1;", "3 3 4");
         // Sorts that are alike in all are still not the same.
         ring("piece 0;piece 1;sort 1 1 0;row 2 2 1 0;hand 1 1;hand 2 1;hand 1 1;hand 2 3;", "4 4 5");
+        // Hand 1 works at piece 2 of sort 0 at 1, at piece 0 of sort 2 at 4, all else is the same; at 5 as at 2.
+        ring("piece 0;piece 0;piece 1;sort 1 1 0 0;sort 2 1 0 0;row 0 2;hand 1 1 2;hand 1 1 2;", "2 2 3");
         // A sort more and a unit less, or a tick less, are not the same either.
         ring("piece 5;sort 2 2;row 0 0 2 0;hand 1;hand 1;", "3 8 17");
         ring("piece 4;sort 1 1;sort 2 2;row 2 1 0;hand 2;hand 2;hand 3;zone 1 1;walk 2;", "2 6 14");
@@ -255,6 +258,24 @@ public final class RunsEdgesTest {
         ring("piece 1;piece 1;sort 1 1 0;row 0 1;hand 2 1;hand 1 2;learn 60;", "-4 -4 -4");
         ring("piece 1;hand 9;learn 99;", "-4 -4 -4");
         ring(NO_RING, "-4 -4 -4");
+    }
+
+    /** What a larger bench was like, whose hands learnt with every coat, is no part of a smaller one's ring. */
+    private static void ringsBehindLargerBenches() {
+        Due.about("A text that is taken tells all");
+        String hands = "hand 9;";
+        for (int h = 2; h <= 5; h++) {
+            hands += "hand 9;";
+            // The last hand makes each coat alone, the others wait.
+            HandToHand x = Tape.told("piece 1;learn 99;" + hands);
+            Due.same("the last of " + h + " learns on", Look.row(2, x::settles), "-4 -4 -4");
+            Tape.tell(x, "piece 1;hand 4;");
+            Due.same("one hand behind " + h, Look.row(2, x::settles), "1 1 4");
+        }
+        HandToHand x = Tape.told("piece 1;piece 1;piece 1;hand 9 9 9;learn 99;");
+        Due.same("learns on at all pieces", Look.row(2, x::settles), "-4 -4 -4");
+        Tape.tell(x, "piece 1;piece 1;hand 2 2;");
+        Due.same("two pieces behind three", Look.row(2, x::settles), "1 1 4");
     }
 
     private static void settles() {
